@@ -1,3 +1,4 @@
+/** Lays methods out for a small device, finds and checks the types of their places, and runs them. */
 public final class MapDesk {
     public static final int OK = 0, SHAPE = 1, TYPE = 2, BAD = -1, FULL = -2;
     public static final int FALL = 1, CAUGHT = 2, NEEDS = 3, JUMP = 4;
@@ -86,7 +87,7 @@ public final class MapDesk {
             return false;
         }
         parent[c] = p;
-        placeCount = 0;
+        endLayout();
         return true;
     }
 
@@ -95,7 +96,7 @@ public final class MapDesk {
             return false;
         }
         entry[local] = type;
-        placeCount = 0;
+        endLayout();
         return true;
     }
 
@@ -109,7 +110,7 @@ public final class MapDesk {
         code[codeCount] = op;
         operand[codeCount] = a;
         codeCount++;
-        placeCount = 0;
+        endLayout();
         return codeCount;
     }
 
@@ -128,7 +129,7 @@ public final class MapDesk {
         coverTarget[coverCount] = target;
         coverClass[coverCount] = c;
         coverCount++;
-        placeCount = 0;
+        endLayout();
         return coverCount;
     }
 
@@ -136,12 +137,12 @@ public final class MapDesk {
         int were = codeCount;
         codeCount = 0;
         coverCount = 0;
-        placeCount = 0;
+        endLayout();
         return were;
     }
 
     public int lay() {
-        placeCount = 0;
+        endLayout();
         lastReason = 0;
         wrongKind = 0;
         wrongKey = -1;
@@ -152,7 +153,7 @@ public final class MapDesk {
         comeToPlaces();
         noteFirstWrong();
         if (wrongKind != 0) {
-            placeCount = 0;
+            endLayout();
             layAnswer = SHAPE;
             return layAnswer;
         }
@@ -350,6 +351,11 @@ public final class MapDesk {
             }
         }
         return codeCount == 0;
+    }
+
+    /** What wrong and reason answer outlives the layout, so it is not touched here. */
+    private void endLayout() {
+        placeCount = 0;
     }
 
     // ---- keys of places ----
@@ -974,7 +980,7 @@ public final class MapDesk {
         return kind[slot] != OBJECT || isUnder(objectClass[value[slot]], c);
     }
 
-    /** The OBJECT that the instruction, which has found what it needs, throws; -1 if none. */
+    /** The OBJECT that leaves the instruction, which has found what it needs, for a HANDLER; -1 if none. */
     private int raisedAt(int at) {
         int op = code[at];
         int top = LOCALS + valueDepth - 1;
