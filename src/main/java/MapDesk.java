@@ -703,7 +703,6 @@ public final class MapDesk {
             frame[slot] = from[k * SLOTS + slot];
         }
         frameDepth = placeDepth[k];
-        frameThere = true;
     }
 
     private void giveFrame(int p) {

@@ -695,6 +695,13 @@ public final class PromiseTest {
         dueCheck("NEW of this place in the STACK", x, 1, MapDesk.NEEDS);
         x.alter(1, 4, NEW + 2);
         dueCheck("NEW of another place in the STACK", x, 4, MapDesk.JUMP);
+        x = desk(GO, 3, MAKE, 1, RETURN, 0, CONST, 0, CONST, 0, CONST, 0, GO, 1);
+        x.lay();
+        for (int slot = 0; slot < 7; slot++) {
+            x.alter(1, slot, NEW + 1);
+            dueCheck("NEW of this place in slot " + slot, x, slot < 4 ? 6 : 1, slot < 4 ? MapDesk.JUMP : MapDesk.NEEDS);
+            x.alter(1, slot, slot < 4 ? TOP : INT);
+        }
         x = desk(GO, 3, MAKE, 1, GO, 5, CONST, 0, GO, 1, RETURN, 0);
         x.lay();
         x.alter(1, 0, NEW + 1);
@@ -890,6 +897,30 @@ public final class PromiseTest {
         dueRun("LONG as it was caught", x, 2, MapDesk.LONG, 2, 2, -1);
     }
 
+    /** Nothing of one RUN or layout shows in the next. */
+    static void again() {
+        MapDesk x = desk(MAKE, 1, POP, 0, GO, 0);
+        for (int i = 0; i < 5; i++) {
+            dueRun("many OBJECTS, again", x, 200, MapDesk.LONG, 200, 2, -1);
+        }
+        put(x, MAKE, 5, STORE, 1, MAKE, 6, STORE, 2, CONST, 8, STORE, 3, RETURN, 0);
+        dueRun("OBJECTS after that", x, 200, MapDesk.RETURNED, 7, 6, -1);
+        dueHeld("OBJECTS after that", x, 0, 16, 17, 1);
+        put(x, RETURN, 0);
+        x.enter(3, INT);
+        dueRun("LOCALS begin anew", x, 200, MapDesk.RETURNED, 1, 0, -1);
+        dueHeld("LOCALS begin anew", x, 0, 0, 0, 1);
+        due("LOCALS begin anew with 0", x.held(3, true), 0);
+        put(x, GO, 1, RETURN, 0);
+        x.lay();
+        due("MAP at 1", x.place(1, 6), 1);
+        put(x, CONST, 0, RETURN, 0);
+        x.lay();
+        due("no MAP at 1 then", x.place(1, 6), 0);
+        x.lay();
+        due("lay twice", x.places(), 2);
+    }
+
     static void endedAndHeld() {
         MapDesk x = desk(CONST, 77, STORE, 1, RETURN, 0);
         for (int what = -2; what < 5; what++) {
@@ -967,6 +998,7 @@ public final class PromiseTest {
         runSteps();
         runObjects();
         runThrown();
+        again();
         endedAndHeld();
         orderAndLimits();
         System.out.println(failures + " of " + tests + " answers are not as due");
