@@ -1,7 +1,8 @@
 /** Compares every answer of MapDesk with that of the Model, over many made methods, and sees that check is sound. */
 public final class ModelTest {
-    private static final int RUNS = 60000;
+    private static final int RUNS = 100000;
     private static final int FAR = 12;
+    private static final int ASKED = 36;
     private static int failures = 0;
     private static final int[] lays = new int[4];
     private static final int[] wrongs = new int[8];
@@ -43,16 +44,24 @@ public final class ModelTest {
         }
     }
 
-    private static void compareLaid(long seed, MapDesk desk, Model model) {
-        for (int what = -1; what < 8; what++) {
-            same(seed, "wrong(" + what + ")", desk.wrong(what), model.wrong(what));
-        }
+    /** Asks some of what may be asked: all of it would be more calls than a desk is used for. */
+    private static void compareLaid(long seed, Methods methods, MapDesk desk, Model model) {
         same(seed, "places()", desk.places(), model.places());
-        for (int k = -1; k <= model.places(); k++) {
-            for (int i = -1; i < FAR; i++) {
-                same(seed, "place(" + k + ", " + i + ")", desk.place(k, i), model.place(k, i));
-                same(seed, "type(" + k + ", " + i + ")", desk.type(k, i), model.type(k, i));
-                same(seed, "map(" + k + ", " + i + ")", desk.map(k, i), model.map(k, i));
+        int what = methods.below(9) - 1;
+        same(seed, "wrong(" + what + ")", desk.wrong(what), model.wrong(what));
+        for (int asked = 0; asked < ASKED; asked++) {
+            int k = methods.below(model.places() + 2) - 1;
+            int i = methods.below(FAR + 1) - 1;
+            switch (methods.below(3)) {
+                case 0:
+                    same(seed, "place(" + k + ", " + i + ")", desk.place(k, i), model.place(k, i));
+                    break;
+                case 1:
+                    same(seed, "type(" + k + ", " + i + ")", desk.type(k, i), model.type(k, i));
+                    break;
+                default:
+                    same(seed, "map(" + k + ", " + i + ")", desk.map(k, i), model.map(k, i));
+                    break;
             }
         }
     }
@@ -109,7 +118,10 @@ public final class ModelTest {
         lays[got + 1]++;
         sizes[(model.places() + 9) / 10]++;
         wrongs[Math.max(0, desk.wrong(0))]++;
-        compareLaid(seed, desk, model);
+        for (int what = -1; what < 8; what++) {
+            same(seed, "wrong(" + what + ")", desk.wrong(what), model.wrong(what));
+        }
+        compareLaid(seed, methods, desk, model);
         compareCheck(seed, desk, model);
         compareRun(seed, methods, desk, model);
         boolean stuck = desk.run(200) == MapDesk.STUCK;
@@ -122,11 +134,11 @@ public final class ModelTest {
                 dueSound(seed, got, stuck, desk);
             }
         }
-        compareLaid(seed, desk, model);
+        compareLaid(seed, methods, desk, model);
         if (methods.once(4)) {
             same(seed, "add", desk.add(17, 0), model.add(17, 0));
             same(seed, "reason()", desk.reason(), model.reason());
-            compareLaid(seed, desk, model);
+            compareLaid(seed, methods, desk, model);
             compareCheck(seed, desk, model);
         }
     }
