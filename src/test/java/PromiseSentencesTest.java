@@ -336,6 +336,21 @@ public final class PromiseSentencesTest extends Probes {
             due("no HANDLERS", x.lay(), MapDesk.OK);
             due("no HANDLERS", x.places(), 1);
             due("a HANDLER", x.handler(0, 1, 0, 0), 1);
+            for (int left = 0; left < 4; left++) {
+                x = new MapDesk();
+                for (int i = 0; i < 4; i++) {
+                    x.handler(1, 4, 2, 0);
+                }
+                put(x, CONST, 0, STORE, 0, NONE, 0, THROW, 0);
+                for (int i = 0; i < left; i++) {
+                    x.handler(20, 21, 0, 0);
+                }
+                due("HANDLERS that were cover nothing: lay", x.lay(), MapDesk.OK);
+                due("nor make a MAP", x.place(2, 6), 0);
+                dueTypes("nor give types", x, 2, INT, TOP, TOP, TOP);
+                dueCheck("nor are checked", x, -1, 0);
+                dueRun("nor catch", x, 9, MapDesk.THROWN, 4, 3, 2);
+            }
         });
         says("(PARENTs and LOCALS stay)", () -> {
             MapDesk x = line();
@@ -390,6 +405,15 @@ public final class PromiseSentencesTest extends Probes {
                 due(op + " to the last", lay(RETURN, 0, op, 1), MapDesk.OK);
             }
             due("come to", lay(GO, 1), MapDesk.BAD);
+            for (int at = 0; at < 23; at++) {
+                MapDesk x = new MapDesk();
+                for (int i = 0; i < 23; i++) {
+                    x.add(i == at ? GO : RETURN, i == at ? 23 : 0);
+                }
+                due("GO 23 at " + at + " of 23", x.lay(), MapDesk.BAD);
+                x.add(RETURN, 0);
+                due("GO 23 at " + at + " of 24", x.lay(), MapDesk.OK);
+            }
             due("LOAD and so on lead nowhere", lay(RETURN, 0, LOAD, 3, STORE, 3, MAKE, 7, RET, 3, CONST, 99), MapDesk.OK);
             for (int target : new int[] {2, 23}) {
                 MapDesk x = desk(RETURN, 0, RETURN, 0);
@@ -436,6 +460,21 @@ public final class PromiseSentencesTest extends Probes {
             x.alter(3, 5, INT);
             due("lay again", x.lay(), MapDesk.OK);
             dueMap("the FRAME again", x, 3, TOP, CLASS + 7, TOP, TOP, INT, NULL);
+            x = desk(GO, 0);
+            for (int local = 0; local < 4; local++) {
+                x.enter(local, CLASS + local);
+            }
+            x.lay();
+            dueMap("at the first place", x, 0, CLASS, CLASS + 1, CLASS + 2, CLASS + 3);
+            x = forty();
+            x.lay();
+            due("the MAP behind the last JSR", x.map(13, 0), LINK + 12);
+            due("the MAP behind the first JSR", x.map(14, 0), TOP);
+            x.enter(3, INT);
+            x.lay();
+            for (int k = 0; k < 40; k++) {
+                due("what was found before does not matter: place " + k, x.type(k, 3), INT);
+            }
         });
         says("; TYPE if there are none: MAPS are all TOP, with as many values as come there.", () -> {
             MapDesk x = desk(CONST, 0, CONST, 0, CONST, 0, CONST, 0, CONST, 0, CONST, 0, GO, 7, LOAD, 0, RETURN, 0);
@@ -497,7 +536,15 @@ public final class PromiseSentencesTest extends Probes {
             dueWrong("two", desk(JSR, 1, JSR, 2, POP, 0, ADD, 0, RETURN, 0), 2, 3, 2, 0, 1);
             dueWrong("three", desk(JSR, 1, JSR, 2, JSR, 3, POP, 0, POP, 0, ADD, 0, RETURN, 0), 2, 5, 3, 0, 1, 2);
         });
-        says("If it was 7, that for what 0 only.", () -> dueWrong("41 places", many(1, 13, RETURN, 0), 7));
+        says("If it was 7, that for what 0 only.", () -> {
+            dueWrong("41 places", many(1, 13, RETURN, 0), 7);
+            MapDesk x = many(0, 13, POP, 0, RETURN, 0);
+            dueWrong("40 places", x, 2, 13, 0);
+            x.handler(13, 14, 14, 0);
+            dueWrong("a WRONG place leads to no 41st", x, 2, 13, 0);
+            x.handler(12, 13, 14, 0);
+            dueWrong("41 places, and another lay before", x, 7);
+        });
         says("-1 if there is none, it was not SHAPE, or for others.", () -> {
             MapDesk x = desk(POP, 0, RETURN, 0);
             x.lay();
@@ -572,6 +619,28 @@ public final class PromiseSentencesTest extends Probes {
             MapDesk x = laid();
             due("no MAP", x.place(0, 6), 0);
             due("a MAP", x.place(1, 6), 1);
+            put(x, CONST, 0, RETURN, 0);
+            x.lay();
+            due("another lay, no MAP", x.place(1, 6), 0);
+            put(x, GO, 0);
+            x.lay();
+            due("a MAP at the first place", x.place(0, 6), 1);
+            put(x, RETURN, 0);
+            x.lay();
+            due("no MAP at the first place", x.place(0, 6), 0);
+            x = many(0, 12, JSR, 15, STORE, 0, STORE, 0, POP, 0, JSR, 17, RETURN, 0);
+            x.lay();
+            due("a MAP at the last of 40", x.place(39, 6), 1);
+            x.clear();
+            for (int i = 0; i < 13; i++) {
+                x.add(JSR, 14);
+            }
+            x.add(RETURN, 0);
+            x.add(STORE, 0);
+            x.add(RET, 0);
+            x.lay();
+            due("40", x.places(), 40);
+            due("no MAP at the last of 40", x.place(39, 6), 0);
         });
         says("-1 if there is none, or for others.", () -> {
             MapDesk x = laid();
@@ -960,6 +1029,13 @@ public final class PromiseSentencesTest extends Probes {
                 x.alter(1, 4, NEW + p);
                 dueCheck("INIT of NEW " + p, x, p == 3 ? -1 : 1, p == 3 ? 0 : MapDesk.NEEDS);
             }
+            x = desk(GO, 1, GO, 2, GO, 3, GO, 4, GO, 6, RETURN, 0, RETURN, 0);
+            x.lay();
+            put(x, GO, 4, INIT, 0, RETURN, 0, RETURN, 0, MAKE, 3, GO, 1, MAKE, 3);
+            due("lay", x.lay(), MapDesk.OK);
+            due("places", x.places(), 5);
+            x.alter(1, 4, NEW + 5);
+            dueCheck("a MAKE that is not come to is none", x, 1, MapDesk.NEEDS);
             x = many(2, 11, GO, 16, INIT, 0, RETURN, 0, MAKE, 4, GO, 14);
             x.lay();
             due("places", x.places(), 40);
@@ -1298,8 +1374,11 @@ public final class PromiseSentencesTest extends Probes {
             for (int what : new int[] {LEAST, -1, 1, 2, 3, 4, 5, 6, GREATEST}) {
                 due("wrong(" + what + ")", x.wrong(what), -1);
             }
-            x = desk(POP, 0, RETURN, 0);
+            put(x, POP, 0, RETURN, 0);
             dueWrong("another lay", x, 2, 0, 0);
+            put(x, GO, 1, RETURN, 0);
+            due("a third lay", x.lay(), MapDesk.OK);
+            due("places", x.places(), 2);
         });
         says("ended: of a RUN that was STUCK because it went on behind the last instruction what 1 is the number of instructions", () -> {
             dueRun("one", desk(CONST, 0), 9, MapDesk.STUCK, 1, 1);

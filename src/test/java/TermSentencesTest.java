@@ -13,12 +13,15 @@ public final class TermSentencesTest extends Probes {
         test("What it is", "An object is used for at most 512 calls after it has been made", () -> {
             MapDesk x = new MapDesk();
             x.add(MAKE, 1);
-            x.add(POP, 0);
+            x.add(STORE, 0);
+            x.add(MAKE, 2);
+            x.add(STORE, 1);
             x.add(GO, 0);
-            for (int call = 4; call < 512; call++) {
+            for (int call = 6; call < 511; call += 2) {
                 due("call " + call, x.run(200), MapDesk.LONG);
+                due("the call behind " + call, x.held(0, false), 12);
             }
-            due("call 512", x.ended(0), 200);
+            due("call 512", x.held(1, false), 13);
             MapDesk y = forty();
             for (int call = 17; call < 512; call++) {
                 due("call " + call, y.lay(), MapDesk.OK);
@@ -381,6 +384,10 @@ public final class TermSentencesTest extends Probes {
                 due("SWAP", made(SWAP, 0, 4, TOP, TOP, TOP, TOP, CLASS + 3, type), type);
             }
             due("SWAP leaves what is below", made(SWAP, 0, 4, TOP, TOP, TOP, TOP, NULL, INT, LINK), NULL);
+            MapDesk x = desk(NONE, 0, CONST, 7, MAKE, 4, SWAP, 0, STORE, 0, STORE, 1, STORE, 2, RETURN, 0);
+            x.run(9);
+            dueHeld("SWAP in a RUN", x, 1, 15, 2, 0);
+            due("the int", x.held(0, true), 7);
         });
         terms("7 ADD takes INT, INT: INT", () -> {
             dueNeeds(ADD, 0, 2, 4, type -> type == INT);
@@ -410,6 +417,10 @@ public final class TermSentencesTest extends Probes {
             for (int local = 0; local < 4; local++) {
                 dueNeeds(MAKE, 2, 0, local, type -> true);
             }
+            MapDesk x = desk(GO, 4, POP, 0, MAKE, 1, RETURN, 0, CONST, 0, GO, 1);
+            x.lay();
+            x.alter(1, 4, NEW + 2);
+            dueCheck("one that was taken off is not there", x, 5, MapDesk.JUMP);
         });
         terms(": NEW of this place", () -> {
             due("MAKE puts", made(MAKE, 7, 4, TOP, TOP, TOP, TOP), NEW + 1);
@@ -638,6 +649,7 @@ public final class TermSentencesTest extends Probes {
             due("the last is a JSR that is not come back to", lay(GO, 2, RETURN, 0, JSR, 1), MapDesk.OK);
             dueWrong("RET, the last is its JSR", desk(GO, 3, STORE, 0, RET, 0, JSR, 1), 1, 2, 1, 3);
             due("the last is RET, its JSR is not", lay(JSR, 2, RETURN, 0, STORE, 0, RET, 0), MapDesk.OK);
+            due("RET, the last but one is its JSR", lay(GO, 3, STORE, 0, RET, 0, JSR, 1, RETURN, 0), MapDesk.OK);
         });
         terms("2 the STACK has fewer values than are taken", () -> {
             for (int op = 0; op < 20; op++) {
@@ -810,6 +822,10 @@ public final class TermSentencesTest extends Probes {
             x.handler(3, 4, 5, 0);
             x.lay();
             dueTypes("before INIT", x, 5, NEW, TOP, TOP, NULL, CLASS);
+            x = desk(GO, 3, RETURN, 0, RETURN, 0, CONST, 0, STORE, 0, GO, 1);
+            x.handler(1, 2, 2, 6);
+            x.lay();
+            dueTypes("its own, not those of the place before it in order", x, 2, INT, TOP, TOP, TOP, CLASS + 6);
         });
         terms("what a place is given is JOINed, type by type, to what it has.", () -> {
             MapDesk x = desk(CONST, 0, NONE, 0, CONST, 0, IF, 7, SWAP, 0, LOAD, 0, STORE, 1, RETURN, 0);
@@ -835,6 +851,9 @@ public final class TermSentencesTest extends Probes {
             x = desk(CONST, 0, IF, 3, RETURN, 0, LOAD, 3, RETURN, 0);
             due("not so at one place", x.lay(), MapDesk.TYPE);
             due("none at another place", x.type(0, 0), -1);
+            x = many(0, 12, JSR, 15, STORE, 0, STORE, 0, POP, 0, CONST, 0, THROW, 0);
+            due("not so at the last of 40", x.lay(), MapDesk.TYPE);
+            due("40", x.places(), 40);
             due("so where it is come to", lay(RETURN, 0, LOAD, 0, RETURN, 0), MapDesk.OK);
         });
     }
