@@ -939,8 +939,6 @@ public final class PromiseSentencesTest extends Probes {
             x = desk(CONST, 0, THROW, 0);
             x.lay();
             dueCheck("from place to place", x, 1, MapDesk.NEEDS);
-            x = desk(NONE, 0, CONST, 0, IF, 4, USE, 0, RETURN, 0);
-            due("lay", x.lay(), MapDesk.SHAPE);
             x = desk(NONE, 0, CONST, 0, IF, 5, USE, 0, RETURN, 0, RETURN, 0);
             x.lay();
             dueCheck("behind IF", x, -1, 0);

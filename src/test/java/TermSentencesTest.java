@@ -508,6 +508,14 @@ public final class TermSentencesTest extends Probes {
                 boolean met = type == LINK + 2;
                 due("RET of " + type, x.check() == 5 && x.reason() == MapDesk.NEEDS, !met);
             }
+            x = desk(JSR, 3, JSR, 3, RETURN, 0, STORE, 0, JSR, 6, RET, 0, GO, 8, RET, 1, STORE, 1, GO, 7);
+            due("one JSR with two CALLS", x.lay(), MapDesk.OK);
+            duePlace("one JSR", x, 4, 4, 0, 1, 0, -1, -1);
+            duePlace("one JSR", x, 7, 4, 0, 1, 1, -1, -1);
+            duePlace("RET", x, 14, 7, 0, 2, 1, 4, -1);
+            due("its LINK", x.map(14, 1), LINK + 7);
+            x.alter(14, 1, LINK + 4);
+            dueCheck("the LINK of that JSR with other CALLS is another one", x, 14, MapDesk.NEEDS);
             int[] last = {JSR, 2, RETURN, 0, STORE, 0, JSR, 5, RET, 0, STORE, 1, RET, 1};
             due("the last JSR", lay(last), MapDesk.OK);
             last[13] = 0;
@@ -879,13 +887,12 @@ public final class TermSentencesTest extends Probes {
                     due("its int", x.held(local, true), 0);
                 }
             }
-            due("a RUN before does not matter", desk(CONST, 5, STORE, 0, RETURN, 0).run(9), MapDesk.RETURNED);
             x = desk(CONST, 5, STORE, 0, CONST, 6, STORE, 1, RETURN, 0);
             x.enter(0, INT);
             x.run(9);
             x.run(1);
-            due("INT has 0 again", x.held(0, true), 0);
-            due("TOP has no value again", x.held(1, false), 0);
+            due("INT has 0, whatever a RUN before left", x.held(0, true), 0);
+            due("TOP has no value, whatever a RUN before left", x.held(1, false), 0);
             due("and may not be loaded", runWith(LOAD, 0), MapDesk.STUCK);
         });
         terms("It is STUCK where it goes on behind the last instruction", () -> {
