@@ -821,6 +821,11 @@ public final class PromiseSentencesTest extends Probes {
             x.lay();
             x.alter(1, 0, INT);
             dueCheck("there is none behind GO", x, 2, MapDesk.JUMP);
+            x = desk(NONE, 0, GO, 2, RETURN, 0);
+            x.lay();
+            put(x, CONST, 0, IF, 2, RETURN, 0);
+            x.lay();
+            dueCheck("of what was taken, and of a MAP that was, nothing is left to FIT", x, -1, 0);
         });
         says(", and the FRAME is that MAP then.", () -> {
             MapDesk x = desk(CONST, 0, STORE, 0, CONST, 0, IF, 4, LOAD, 0, IF, 6, RETURN, 0);

@@ -1173,6 +1173,11 @@ public final class TermSentencesTest extends Probes {
             x.lay();
             due("with these CALLS", x.place(5, 6), 1);
             due("not with others", x.place(2, 6), 0);
+            x = desk(GO, 1, GO, 2, GO, 3, RETURN, 0);
+            x.lay();
+            put(x, CONST, 0, RETURN, 0, GO, 1, GO, 1);
+            x.lay();
+            due("no place leads there, though instructions would", x.place(1, 6), 0);
             x = desk(JSR, 1, STORE, 0, CONST, 0, STORE, 1, RETURN, 0);
             x.lay();
             due("a JSR alone has none", x.place(0, 6), 0);
