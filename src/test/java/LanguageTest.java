@@ -2,21 +2,26 @@ import com.sun.source.tree.*;
 import com.sun.source.util.JavacTask;
 import com.sun.source.util.TreeScanner;
 import java.io.File;
+import java.io.IOException;
 import java.lang.reflect.Field;
 import java.lang.reflect.Method;
 import java.lang.reflect.Modifier;
+import java.nio.file.Files;
+import java.nio.file.Path;
 import java.util.*;
+import java.util.regex.Matcher;
+import java.util.regex.Pattern;
 import javax.tools.JavaCompiler;
 import javax.tools.StandardJavaFileManager;
 import javax.tools.ToolProvider;
 
 /** The public face of the document, and those rules of LANGUAGE.md that can be seen in the source. */
 public final class LanguageTest {
-    private static final String FACE = "alter(int,int,int)boolean add(int,int)int check()int clear()int ended(int)int "
-        + "enter(int,int)boolean handler(int,int,int,int)int held(int,boolean)int kin(int,int)boolean lay()int "
-        + "map(int,int)int place(int,int)int places()int reason()int run(int)int type(int,int)int wrong(int)int";
-    private static final String CONSTANTS = "BAD=-1 CAUGHT=2 FALL=1 FULL=-2 GIVEN=1 JUMP=4 LONG=3 NEEDS=3 OK=0 "
-        + "RETURNED=0 SHAPE=1 STUCK=4 THROWN=2 TYPE=2";
+    private static final Path DOCUMENT = Path.of("../shared/DOC.md");
+    private static final Pattern METHOD = Pattern.compile("public (\\w+) (\\w+)\\((.*)\\);");
+    private static final Pattern CONSTANT = Pattern.compile("([A-Z]+) = (-?\\d+)");
+    private static final Set<String> FACE = new TreeSet<>();
+    private static final Set<String> CONSTANTS = new TreeSet<>();
     private static final Set<String> TYPES = Set.of("int", "long", "short", "byte", "char", "boolean", "void");
     private static final Set<Tree.Kind> BANNED = EnumSet.of(Tree.Kind.THROW, Tree.Kind.TRY, Tree.Kind.SYNCHRONIZED,
         Tree.Kind.ASSERT, Tree.Kind.INSTANCE_OF, Tree.Kind.LAMBDA_EXPRESSION, Tree.Kind.MEMBER_REFERENCE,
@@ -29,6 +34,23 @@ public final class LanguageTest {
             failures++;
             System.out.println("not kept: " + rule);
         }
+    }
+
+    /** The methods and constants of the section that has the public face, in the form in which face has them. */
+    private static void readFace() throws IOException {
+        String text = Files.readString(DOCUMENT);
+        String section = text.split("## The public face", 2)[1].split("## Terms", 2)[0];
+        Matcher method = METHOD.matcher(section);
+        while (method.find()) {
+            String types = method.group(3).replaceAll("(\\w+) \\w+", "$1").replace(" ", "");
+            FACE.add(method.group(2) + "(" + types + ")" + method.group(1));
+        }
+        Matcher constant = CONSTANT.matcher(section);
+        while (constant.find()) {
+            CONSTANTS.add(constant.group(1) + "=" + constant.group(2));
+        }
+        due("the document has 17 methods", FACE.size() == 17);
+        due("the document has 14 constants", CONSTANTS.size() == 14);
     }
 
     private static void face() throws ReflectiveOperationException {
@@ -46,7 +68,7 @@ public final class LanguageTest {
                 hidden.add(m.getName());
             }
         }
-        due("1: the public methods: " + open, open.equals(new TreeSet<>(List.of(FACE.split(" ")))));
+        due("1: the public methods: " + open, open.equals(FACE));
         due("1: no private method bears the name of a public one", Collections.disjoint(names, hidden));
         due("1: public and final", Modifier.isFinal(MapDesk.class.getModifiers()) && Modifier.isPublic(MapDesk.class.getModifiers()));
         due("1: one public constructor", MapDesk.class.getDeclaredConstructors().length == 1
@@ -71,7 +93,7 @@ public final class LanguageTest {
             }
             due("1: private field " + f.getName(), Modifier.isPrivate(how) || Modifier.isPublic(how) && Modifier.isStatic(how));
         }
-        due("1: the constants: " + constants, constants.equals(new TreeSet<>(List.of(CONSTANTS.split(" ")))));
+        due("1: the constants: " + constants, constants.equals(CONSTANTS));
         due("10: some forty fields: " + others, others <= 40);
     }
 
@@ -156,7 +178,7 @@ public final class LanguageTest {
         return most + 1;
     }
 
-    private static void source() throws java.io.IOException {
+    private static void source() throws IOException {
         JavaCompiler compiler = ToolProvider.getSystemJavaCompiler();
         try (StandardJavaFileManager files = compiler.getStandardFileManager(null, null, null)) {
             JavacTask task = (JavacTask) compiler.getTask(null, files, null, null, null,
@@ -173,6 +195,7 @@ public final class LanguageTest {
     }
 
     public static void main(String[] args) throws Exception {
+        readFace();
         face();
         source();
         System.out.println(failures + " rules are not kept");

@@ -67,13 +67,6 @@ class Sentences extends Due {
         about = "";
     }
 
-    /** Words that no answer could break: they lead to others, or leave something free. */
-    static void noTest(String section, String words) {
-        about = section + ", \"" + words + "\": ";
-        find(section, words);
-        about = "";
-    }
-
     /** Every word of the section is in the name of a test. */
     static void allSaid(String section) {
         String text = SECTIONS.getOrDefault(section, "");

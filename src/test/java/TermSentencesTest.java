@@ -6,10 +6,71 @@ public final class TermSentencesTest extends Probes {
         test("Terms", words, body);
     }
 
+    /** The subroutine from instruction 3 on, called twice; it loops, so that a map of it has an INT in local 1. */
+    private static MapDesk calledTwice() {
+        MapDesk x = new MapDesk();
+        x.enter(1, INT);
+        put(x, JSR, 3, JSR, 3, RETURN, 0, STORE, 0, LOAD, 1, IF, 4, RET, 0);
+        due("a subroutine is laid out", x.lay(), MapDesk.OK);
+        return x;
+    }
+
+    private static void desks() {
+        test("What it is", "A desk that makes methods ready for a small device: subroutines are laid out once more for each way "
+            + "in which they are called", () -> {
+            MapDesk x = calledTwice();
+            due("places", x.places(), 3 + 4 + 4);
+            for (int k = 0; k < 3; k++) {
+                duePlace("outside", x, k, k, 0, 0, -1, -1, -1);
+            }
+            for (int k = 3; k < 11; k++) {
+                int at = 3 + (k - 3) % 4;
+                duePlace("in the subroutine", x, k, at, at == 3 || at == 5 ? 1 : 0, 1, k < 7 ? 0 : 1, -1, -1);
+            }
+        });
+        test("What it is", "the types of all places are found", () -> {
+            MapDesk x = calledTwice();
+            // A call leaves its LINK in local 0, so the second one finds that of the first there.
+            int first = LINK, second = LINK + 1;
+            int[] links = {TOP, first, second, TOP, first, first, first, first, second, second, second};
+            for (int k = 0; k < 11; k++) {
+                due("local 0 of place " + k, x.type(k, 0), links[k]);
+                due("local 1 of place " + k, x.type(k, 1), INT);
+                due("local 2 of place " + k, x.type(k, 2), TOP);
+            }
+            due("the STACK of place 3", x.type(3, 4), LINK);
+            due("the STACK of place 7", x.type(7, 4), LINK + 1);
+            due("there are no more", x.type(11, 0), -1);
+        });
+        test("What it is", "maps of types are kept where jumps lead to", () -> {
+            MapDesk x = calledTwice();
+            for (int k = 0; k < 11; k++) {
+                boolean jumpedTo = k == 1 || k == 2 || k == 3 || k == 4 || k == 7 || k == 8;
+                due("place " + k + " has a map", x.place(k, 6), jumpedTo ? 1 : 0);
+                for (int slot = 0; slot < 10; slot++) {
+                    due("map(" + k + ", " + slot + ")", x.map(k, slot), jumpedTo ? x.type(k, slot) : -1);
+                }
+            }
+        });
+        test("What it is", "and one pass over all places checks such maps, whatever they say.", () -> {
+            for (int k : new int[] {1, 2, 3, 4, 7, 8}) {
+                for (int slot = 0; slot < 4 + calledTwice().place(k, 1); slot++) {
+                    MapDesk x = calledTwice();
+                    int is = x.map(k, slot);
+                    // Local 0 of place 1 is needed as the MAP of place 7 has it; RETURN, at place 2, needs nothing.
+                    boolean needed = slot == 4 || slot == 1 && k != 2 || slot == 0 && (k == 1 || k == 4 || k == 8);
+                    for (int type = 0; type <= 90; type++) {
+                        x.alter(k, slot, type);
+                        boolean fine = type == is || type == TOP && !needed;
+                        due("map(" + k + ", " + slot + ") is " + type, x.check() == -1, fine);
+                        due("it says still what it said", x.map(k, slot), type);
+                    }
+                }
+            }
+        });
+    }
+
     private static void calls() {
-        noTest("What it is", "A desk that makes methods ready for a small device: subroutines are laid out once more for each "
-            + "way in which they are called, the types of all places are found, maps of types are kept where jumps lead to, "
-            + "and one pass over all places checks such maps, whatever they say.");
         test("What it is", "An object is used for at most 512 calls after it has been made", () -> {
             MapDesk x = new MapDesk();
             x.add(MAKE, 1);
@@ -1215,6 +1276,7 @@ public final class TermSentencesTest extends Probes {
     }
 
     public static void main(String[] args) {
+        desks();
         calls();
         allSaid("What it is");
         classes();
