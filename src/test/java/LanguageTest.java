@@ -59,6 +59,7 @@ public final class LanguageTest {
         Set<String> hidden = new HashSet<>();
         for (Method m : MapDesk.class.getDeclaredMethods()) {
             due("10: at most seven parameters: " + m.getName(), m.getParameterCount() <= 7);
+            due("4: no array is answered by " + m.getName(), TYPES.contains(m.getReturnType().getName()));
             if (Modifier.isPublic(m.getModifiers())) {
                 List<String> types = Arrays.stream(m.getParameterTypes()).map(Class::getName).toList();
                 open.add(m.getName() + "(" + String.join(",", types) + ")" + m.getReturnType().getName());
@@ -83,6 +84,7 @@ public final class LanguageTest {
             int how = f.getModifiers();
             Class<?> type = f.getType().isArray() ? f.getType().getComponentType() : f.getType();
             due("2: type of " + f.getName(), TYPES.contains(type.getName()));
+            due("4: no method assigns to " + f.getName(), !f.getType().isArray() || Modifier.isFinal(how));
             if (Modifier.isStatic(how)) {
                 due("5: constant " + f.getName(), Modifier.isFinal(how) && (f.getType() == int.class || f.getType() == long.class));
                 if (Modifier.isPublic(how)) {
@@ -158,6 +160,21 @@ public final class LanguageTest {
             return super.visitNewArray(tree, none);
         }
 
+        @Override public Void visitTypeCast(TypeCastTree tree, Void none) {
+            due("6: no cast of a reference, in " + method, tree.getType() instanceof PrimitiveTypeTree);
+            return super.visitTypeCast(tree, none);
+        }
+
+        @Override public Void visitForLoop(ForLoopTree tree, Void none) {
+            due("8: a loop has an end, in " + method, tree.getCondition() != null && tree.getUpdate().size() == 1);
+            return super.visitForLoop(tree, none);
+        }
+
+        @Override public Void visitDoWhileLoop(DoWhileLoopTree tree, Void none) {
+            due("8: a counter against a bound, in " + method, false);
+            return super.visitDoWhileLoop(tree, none);
+        }
+
         @Override public Void visitWhileLoop(WhileLoopTree tree, Void none) {
             due("8: a counter against a bound, in " + method, false);
             return super.visitWhileLoop(tree, none);
@@ -188,6 +205,10 @@ public final class LanguageTest {
             Rules rules = new Rules(unit, com.sun.source.util.Trees.instance(task).getSourcePositions());
             rules.scan(unit, null);
             for (String method : rules.calls.keySet()) {
+                Set<String> others = new TreeSet<>(rules.calls.get(method));
+                others.removeAll(rules.calls.keySet());
+                others.remove("super");
+                due("3: none of Object's methods is called: " + others, others.isEmpty());
                 int deep = deep(rules.calls, method, new ArrayDeque<>());
                 due("10: calls go at most six deep: " + method + " " + deep, deep <= 6);
             }
